@@ -472,23 +472,24 @@ final class Model {
         return cells;
     }
 
-    /** The first of the shortest ways to each PAIR: from the front on, those of a DAY in their order. */
-    private static Map<Integer, List<Integer>> firstWays(Set<Integer> pairs, int start) {
-        Map<Integer, List<Integer>> ways = new LinkedHashMap<>();
+    /**
+     * Of the first of the shortest ways to each PAIR: the PAIR ahead of it, and its DAYS. From the front on,
+     * the PAIRS of a DAY in the order of their ways.
+     */
+    private static Map<Integer, int[]> firstWays(Set<Integer> pairs, int start) {
+        Map<Integer, int[]> ways = new HashMap<>();
         if (!pairs.contains(start)) {
             return ways;
         }
-        ways.put(start, List.of(start));
+        ways.put(start, new int[] {start, 0});
         List<Integer> queue = new ArrayList<>(List.of(start));
         for (int i = 0; i < queue.size(); i++) {
             int pair = queue.get(i);
+            int days = ways.get(pair)[1] + 1;
             for (int his : around(pair / 100)) {
                 for (int hers : around(pair % 100)) {
                     int next = 100 * his + hers;
-                    if (pairs.contains(next) && !ways.containsKey(next)) {
-                        List<Integer> way = new ArrayList<>(ways.get(pair));
-                        way.add(next);
-                        ways.put(next, way);
+                    if (pairs.contains(next) && ways.putIfAbsent(next, new int[] {pair, days}) == null) {
                         queue.add(next);
                     }
                 }
@@ -498,7 +499,15 @@ final class Model {
     }
 
     private List<Integer> wayTo(Set<Integer> pairs, int his, int hers) {
-        return firstWays(pairs, 100 * now.his + now.hers).get(100 * his + hers);
+        Map<Integer, int[]> ways = firstWays(pairs, 100 * now.his + now.hers);
+        if (!ways.containsKey(100 * his + hers)) {
+            return null;
+        }
+        List<Integer> way = new ArrayList<>(List.of(100 * his + hers));
+        while (ways.get(way.get(0))[1] > 0) {
+            way.add(0, ways.get(way.get(0))[0]);
+        }
+        return way;
     }
 
     private Set<Integer> pairSet() {
@@ -603,8 +612,8 @@ final class Model {
             return -3;
         }
         int many = 0;
-        for (List<Integer> way : firstWays(pairSet(), 100 * now.his + now.hers).values()) {
-            many += way.size() - 1 <= n ? 1 : 0;
+        for (int[] way : firstWays(pairSet(), 100 * now.his + now.hers).values()) {
+            many += way[1] <= n ? 1 : 0;
         }
         return many;
     }
