@@ -1293,26 +1293,27 @@ public final class NineMilesOff {
         }
 
         void walkHim() {
+            Arrays.fill(half, 0L);
             for (int his = 0; his < CELLS; his++) {
-                for (int hers = 0; hers < CELLS; hers++) {
-                    long sum = 0;
-                    for (int way = 0; way < WAYS && fit[his] != 0; way++) {
-                        sum += walksTo(Square.cellTo(his, way), hers);
+                for (int way = 0; way < WAYS; way++) {
+                    int from = Square.cellTo(his, way);
+                    for (int hers = 0; hers < CELLS && isCell(from); hers++) {
+                        half[his * CELLS + hers] += walks[from * CELLS + hers];
                     }
-                    half[his * CELLS + hers] = sum;
                 }
             }
         }
 
         void walkHer() {
-            for (int his = 0; his < CELLS; his++) {
-                for (int hers = 0; hers < CELLS; hers++) {
-                    long sum = 0;
-                    for (int way = 0; way < WAYS && Square.has(fit[his], hers); way++) {
-                        int from = Square.cellTo(hers, way);
-                        sum += isCell(from) ? half[his * CELLS + from] : 0;
+            Arrays.fill(walks, 0L);
+            for (int hers = 0; hers < CELLS; hers++) {
+                for (int way = 0; way < WAYS; way++) {
+                    int from = Square.cellTo(hers, way);
+                    for (int his = 0; his < CELLS && isCell(from); his++) {
+                        if ((fit[his] >> hers & 1) == 1) {
+                            walks[his * CELLS + hers] += half[his * CELLS + from];
+                        }
                     }
-                    walks[his * CELLS + hers] = sum;
                 }
             }
         }
