@@ -2,9 +2,6 @@ import java.util.Arrays;
 
 /** Each promise of the document by itself: ordinary inputs, the edges that it names, and REFUSALS in their order. */
 public final class PromiseTest {
-    private static final int LEAST = Integer.MIN_VALUE;
-    private static final int MOST = Integer.MAX_VALUE;
-
     private static int wrong;
     private static int promise;
 
@@ -76,70 +73,6 @@ public final class PromiseTest {
         }
     }
 
-    // ---- lands to ask
-
-    private static int write(NineMilesOff x, int d, String text) {
-        x.row(d, 0, text.length());
-        for (int i = 0; i < text.length(); i++) {
-            x.put(d, i, text.charAt(i));
-        }
-        return d;
-    }
-
-    private static int tell(NineMilesOff x, String text) {
-        return x.land(write(x, 7, text));
-    }
-
-    private static int told(String text) {
-        return tell(new NineMilesOff(), text);
-    }
-
-    private static void numbers(NineMilesOff x, int d, int sort, int... numbers) {
-        x.row(d, sort, numbers.length);
-        for (int i = 0; i < numbers.length; i++) {
-            x.put(d, i, numbers[i]);
-        }
-    }
-
-    private static void lay(NineMilesOff x, int kind, int figure, int... cells) {
-        x.keep(6, 1, kind, figure);
-        for (int cell : cells) {
-            x.lays(6, cell);
-        }
-    }
-
-    /** A land of PLAINS on these CELLS alone, RIVERS on all others. */
-    private static NineMilesOff only(int nearest, int farthest, int... cells) {
-        NineMilesOff x = new NineMilesOff();
-        x.keep(6, 1, 5, 0);
-        for (int cell = 0; cell < 36; cell++) {
-            int one = cell;
-            if (Arrays.stream(cells).noneMatch(c -> c == one)) {
-                x.lays(6, cell);
-            }
-        }
-        x.set(0, nearest);
-        x.set(1, farthest);
-        return x;
-    }
-
-    private static NineMilesOff plains(int nearest, int farthest) {
-        NineMilesOff x = new NineMilesOff();
-        x.set(0, nearest);
-        x.set(1, farthest);
-        return x;
-    }
-
-    private static NineMilesOff put(NineMilesOff x, int his, int hers) {
-        x.stands(0, his);
-        x.stands(1, hers);
-        return x;
-    }
-
-    private static int apart(int a, int b) {
-        return Math.abs(a / 6 - b / 6) + Math.abs(a % 6 - b % 6);
-    }
-
     // ---- the land as told
 
     private static void newObject() {
@@ -164,7 +97,7 @@ public final class PromiseTest {
     private static void land() {
         on(2);
         NineMilesOff x = new NineMilesOff();
-        due("land", tell(x, "g3901;n0210;w1;h00;s05;"), 5);
+        due("land", Lands.tell(x, "g3901;n0210;w1;h00;s05;"), 5);
         due("ground(1, 0)", x.ground(1, 0), 3);
         due("ground(1, 1)", x.ground(1, 1), 9);
         due("NEAREST", x.count(5), 2);
@@ -173,16 +106,16 @@ public final class PromiseTest {
         due("HE", x.count(0), 0);
         due("SHE", x.count(1), 5);
         due("the text stays", x.element(7, 0), 'g');
-        due("ways", tell(x, "d02;d42;d13;"), 3);
+        due("ways", Lands.tell(x, "d02;d42;d13;"), 3);
         due("HE gone", x.count(0), 0);
         due("SHE gone", x.count(1), 4);
         due("DAY", x.count(2), 3);
         due("the rest stays", x.ground(1, 0), 3);
-        due("one twice", tell(x, "w0;w0;w0;"), 3);
+        due("one twice", Lands.tell(x, "w0;w0;w0;"), 3);
         due("WINTER off", x.count(7), 0);
-        due("greatest", tell(x, "g7935;h35;s35;n2020;"), 4);
+        due("greatest", Lands.tell(x, "g7935;h35;s35;n2020;"), 4);
         due("ground(35, 0)", x.ground(35, 0), 7);
-        due("stopped by text", tell(x, "d00;n0000;d01;"), 3);
+        due("stopped by text", Lands.tell(x, "d00;n0000;d01;"), 3);
         due("STOPPED", x.count(3), 1);
         due("PAIN", x.count(4), 1);
 
@@ -199,38 +132,38 @@ public final class PromiseTest {
 
     private static void landFaults() {
         on(2);
-        due("empty", told(""), -1000);
-        due("no letter", told("x"), -1000);
-        due("no letter", told(";"), -1000);
-        due("no letter", told("0"), -1000);
-        due("capital", told("W1;"), -1000);
+        due("empty", Lands.told(""), -1000);
+        due("no letter", Lands.told("x"), -1000);
+        due("no letter", Lands.told(";"), -1000);
+        due("no letter", Lands.told("0"), -1000);
+        due("capital", Lands.told("W1;"), -1000);
         String[] whole = {"g0000;", "h00;", "s00;", "n0306;", "w0;", "d00;"};
         for (String statement : whole) {
             for (int end = 1; end < statement.length(); end++) {
-                due("lacks " + statement, told(statement.substring(0, end)), -1000 - end);
+                due("lacks " + statement, Lands.told(statement.substring(0, end)), -1000 - end);
                 char[] signs = statement.toCharArray();
                 for (char sign : new char[] {'/', ':', 'w', ' ', (char) 176, 0}) {
                     char[] other = signs.clone();
                     other[end] = sign;
-                    due("wrong byte in " + new String(other), told(new String(other)), -1000 - end);
+                    due("wrong byte in " + new String(other), Lands.told(new String(other)), -1000 - end);
                 }
             }
             char[] early = statement.toCharArray();
             early[1] = ';';
-            due("ends early " + new String(early), told(new String(early)), -1001);
+            due("ends early " + new String(early), Lands.told(new String(early)), -1001);
         }
-        due("behind the end", told("w0;;"), -1003);
-        due("behind the end", told("w0; "), -1003);
-        due("too many digits", told("w00;"), -1002);
-        due("too many digits", told("h000;"), -1003);
-        due("kind 1 before kind 2", told("h99;w0"), -1006);
-        due("kind 1 before kind 2", told("d00;?"), -1004);
+        due("behind the end", Lands.told("w0;;"), -1003);
+        due("behind the end", Lands.told("w0; "), -1003);
+        due("too many digits", Lands.told("w00;"), -1002);
+        due("too many digits", Lands.told("h000;"), -1003);
+        due("kind 1 before kind 2", Lands.told("h99;w0"), -1006);
+        due("kind 1 before kind 2", Lands.told("d00;?"), -1004);
 
         NineMilesOff x = new NineMilesOff();
-        due("nothing comes", tell(x, "w1;h03;w"), -1008);
+        due("nothing comes", Lands.tell(x, "w1;h03;w"), -1008);
         due("WINTER", x.count(7), 0);
         due("HE", x.count(0), -4);
-        due("nothing comes", tell(x, "g5003;n0102;w1;h02;s02;d00;w2;"), -2027);
+        due("nothing comes", Lands.tell(x, "g5003;n0102;w1;h02;s02;d00;w2;"), -2027);
         due("ground", x.ground(3, 0), 0);
         due("NEAREST", x.count(5), 3);
         due("FARTHEST", x.count(6), 6);
@@ -243,50 +176,50 @@ public final class PromiseTest {
 
     private static void landStatements() {
         on(2);
-        due("kind 7", told("g7000;"), 1);
-        due("kind 8", told("g8000;"), -2000);
-        due("kind 9", told("g9000;"), -2000);
-        due("cell 35", told("g0035;"), 1);
-        due("cell 36", told("g0036;"), -2000);
-        due("cell 99", told("g0099;"), -2000);
-        due("he on 36", told("w0;h36;"), -2003);
-        due("she on 36", told("w0;s36;"), -2003);
-        due("nearest 20", told("n2000;"), 1);
-        due("nearest 21", told("n2100;"), -2000);
-        due("farthest 20", told("n0020;"), 1);
-        due("farthest 21", told("n0021;"), -2000);
-        due("winter 2", told("w2;"), -2000);
-        due("winter 9", told("w9;"), -2000);
-        due("not open", told("g5003;h03;"), -2006);
-        due("not open", told("g5003;s03;"), -2006);
-        due("open by winter", told("g5003;w1;h03;s03;"), 4);
-        due("closed by winter", told("g3003;h03;w1;s03;"), -2013);
-        due("nobody", told("d00;"), -2000);
-        due("she is nobody", told("h00;d00;"), -2004);
-        due("he is nobody", told("s00;d00;"), -2004);
-        due("way 5 of his", told("h00;s00;d50;"), -2008);
-        due("way 5 of hers", told("h00;s00;d05;"), -2008);
-        due("way off the square", told("h00;s00;d10;"), -2008);
-        due("way onto a river", told("h00;s00;g5001;d03;"), -2014);
-        due("first that can't", told("h00;s00;d44;d20;d01;"), -2012);
+        due("kind 7", Lands.told("g7000;"), 1);
+        due("kind 8", Lands.told("g8000;"), -2000);
+        due("kind 9", Lands.told("g9000;"), -2000);
+        due("cell 35", Lands.told("g0035;"), 1);
+        due("cell 36", Lands.told("g0036;"), -2000);
+        due("cell 99", Lands.told("g0099;"), -2000);
+        due("he on 36", Lands.told("w0;h36;"), -2003);
+        due("she on 36", Lands.told("w0;s36;"), -2003);
+        due("nearest 20", Lands.told("n2000;"), 1);
+        due("nearest 21", Lands.told("n2100;"), -2000);
+        due("farthest 20", Lands.told("n0020;"), 1);
+        due("farthest 21", Lands.told("n0021;"), -2000);
+        due("winter 2", Lands.told("w2;"), -2000);
+        due("winter 9", Lands.told("w9;"), -2000);
+        due("not open", Lands.told("g5003;h03;"), -2006);
+        due("not open", Lands.told("g5003;s03;"), -2006);
+        due("open by winter", Lands.told("g5003;w1;h03;s03;"), 4);
+        due("closed by winter", Lands.told("g3003;h03;w1;s03;"), -2013);
+        due("nobody", Lands.told("d00;"), -2000);
+        due("she is nobody", Lands.told("h00;d00;"), -2004);
+        due("he is nobody", Lands.told("s00;d00;"), -2004);
+        due("way 5 of his", Lands.told("h00;s00;d50;"), -2008);
+        due("way 5 of hers", Lands.told("h00;s00;d05;"), -2008);
+        due("way off the square", Lands.told("h00;s00;d10;"), -2008);
+        due("way onto a river", Lands.told("h00;s00;g5001;d03;"), -2014);
+        due("first that can't", Lands.told("h00;s00;d44;d20;d01;"), -2012);
     }
 
     private static void landOver() {
         on(2);
-        NineMilesOff x = plains(1, 0);
-        put(x, 0, 0);
-        write(x, 0, "d00;d00;d00;d00;d00;d00;d00;d00;d00;d00;d00;d00;d00;d00;d00;d00;d00;d00;d00;d00;d00;d00;d00;d00;d00;");
+        NineMilesOff x = Lands.plains(1, 0);
+        Lands.put(x, 0, 0);
+        Lands.write(x, 0, "d00;d00;d00;d00;d00;d00;d00;d00;d00;d00;d00;d00;d00;d00;d00;d00;d00;d00;d00;d00;d00;d00;d00;d00;d00;");
         for (int i = 0; i < 39; i++) {
             due("25 days", x.land(0), 25);
         }
         due("day 1000", x.land(0), -2096);
         due("DAY", x.count(2), 975);
-        write(x, 1, "d00;d00;d00;d00;d00;d00;d00;d00;d00;d00;d00;d00;d00;d00;d00;d00;d00;d00;d00;d00;d00;d00;d00;d04;");
+        Lands.write(x, 1, "d00;d00;d00;d00;d00;d00;d00;d00;d00;d00;d00;d00;d00;d00;d00;d00;d00;d00;d00;d00;d00;d00;d00;d04;");
         due("day 999", x.land(1), 24);
         due("DAY", x.count(2), 999);
         due("STOPPED", x.count(3), 998);
         due("PAIN", x.count(4), 1);
-        due("beyond", tell(x, "w1;d00;"), -2003);
+        due("beyond", Lands.tell(x, "w1;d00;"), -2003);
         due("WINTER", x.count(7), 0);
         on(7);
         due("go(0, 0)", x.go(0, 0), -3);
@@ -307,7 +240,7 @@ public final class PromiseTest {
         NineMilesOff x = new NineMilesOff();
         for (int kind = 0; kind < 8; kind++) {
             for (int f = 0; f < 3; f++) {
-                lay(x, kind, figures[f], 35);
+                Lands.lay(x, kind, figures[f], 35);
                 String of = " of kind " + kind + ", figure " + figures[f];
                 due("KIND" + of, x.ground(35, 0), kind);
                 due("FIGURE" + of, x.ground(35, 1), figures[f]);
@@ -320,7 +253,7 @@ public final class PromiseTest {
             }
         }
         x.set(2, 1);
-        lay(x, 4, 5, 0);
+        Lands.lay(x, 4, 5, 0);
         due("a PASS with 5 in WINTER", x.ground(0, 3), 0);
         due("CHANCE of a PASS with 5", x.ground(0, 4), 6);
         due("HEIGHT of a PASS with 5", x.ground(0, 2), 3);
@@ -357,7 +290,7 @@ public final class PromiseTest {
     private static void stands() {
         on(5);
         NineMilesOff x = new NineMilesOff();
-        lay(x, 5, 0, 7);
+        Lands.lay(x, 5, 0, 7);
         due("stands(0, 0)", x.stands(0, 0), -4);
         due("stands(1, 35)", x.stands(1, 35), -4);
         due("stands(0, 35)", x.stands(0, 35), 0);
@@ -399,7 +332,7 @@ public final class PromiseTest {
 
     private static void go() {
         on(7);
-        NineMilesOff x = put(plains(2, 4), 14, 15);
+        NineMilesOff x = Lands.put(Lands.plains(2, 4), 14, 15);
         due("go(1, 4)", x.go(1, 4), 3);
         due("HE up", x.count(0), 8);
         due("SHE down", x.count(1), 21);
@@ -436,17 +369,17 @@ public final class PromiseTest {
         due("he is nowhere", x.go(0, 0), -3);
         int[][] edges = {{0, 1, 2}, {5, 1, 3}, {30, 2, 4}, {35, 3, 4}};
         for (int[] edge : edges) {
-            put(x, edge[0], edge[0]);
+            Lands.put(x, edge[0], edge[0]);
             for (int way = 1; way <= 4; way++) {
                 boolean off = way == edge[1] || way == edge[2];
                 due("his way " + way + " from " + edge[0], x.go(way, 0), off ? -3 : 1);
-                put(x, edge[0], edge[0]);
+                Lands.put(x, edge[0], edge[0]);
                 due("her way " + way + " from " + edge[0], x.go(0, way), off ? -3 : 1);
-                put(x, edge[0], edge[0]);
+                Lands.put(x, edge[0], edge[0]);
             }
         }
         due("DAY", x.count(2), 16);
-        lay(x, 5, 0, 29);
+        Lands.lay(x, 5, 0, 29);
         due("onto a river", x.go(1, 0), -3);
         due("onto a river", x.go(0, 1), -3);
         due("one can, one can not", x.go(2, 1), -3);
@@ -456,8 +389,8 @@ public final class PromiseTest {
 
     private static void goneClosed() {
         on(7);
-        NineMilesOff x = put(plains(0, 20), 0, 1);
-        lay(x, 5, 0, 0, 1);
+        NineMilesOff x = Lands.put(Lands.plains(0, 20), 0, 1);
+        Lands.lay(x, 5, 0, 0, 1);
         due("both stay on closed ones", x.go(0, 0), 1);
         due("not onto a closed one", x.go(3, 0), -3);
         due("not back", x.go(0, 2), -3);
@@ -475,16 +408,16 @@ public final class PromiseTest {
         due("far(5, 30)", x.far(5, 30), 10);
         due("far(7, 7)", x.far(7, 7), 0);
         due("far(5, 6)", x.far(5, 6), 6);
-        lay(x, 3, 9, 8);
+        Lands.lay(x, 3, 9, 8);
         due("far(8, 9)", x.far(8, 9), 6);
         due("far(9, 8)", x.far(9, 8), 6);
-        lay(x, 6, 0, 9);
+        Lands.lay(x, 6, 0, 9);
         due("cut, 10 unlike", x.far(8, 9), 6);
-        lay(x, 2, 0, 9);
+        Lands.lay(x, 2, 0, 9);
         due("cut, 9 unlike", x.far(8, 9), 5);
-        lay(x, 6, 0, 10);
+        Lands.lay(x, 6, 0, 10);
         due("cut, 1 unlike", x.far(10, 11), 1);
-        lay(x, 5, 0, 11);
+        Lands.lay(x, 5, 0, 11);
         due("closed ones, too", x.far(10, 11), 1);
         due("far(-1, 0)", x.far(-1, 0), -1);
         due("far(36, 0)", x.far(36, 0), -1);
@@ -498,9 +431,9 @@ public final class PromiseTest {
         on(9);
         NineMilesOff x = new NineMilesOff();
         for (int cell = 0; cell < 36; cell++) {
-            due("steps(14, " + cell + ")", x.steps(14, cell), apart(14, cell));
+            due("steps(14, " + cell + ")", x.steps(14, cell), Lands.apart(14, cell));
         }
-        x = only(0, 20, 0, 6, 12, 13, 14, 8, 2, 3, 4, 10, 16, 22, 28, 27, 26, 25, 24, 35);
+        x = Lands.only(0, 20, 0, 6, 12, 13, 14, 8, 2, 3, 4, 10, 16, 22, 28, 27, 26, 25, 24, 35);
         due("round", x.steps(0, 24), 16);
         due("back", x.steps(24, 0), 16);
         due("to itself", x.steps(24, 24), 0);
@@ -510,7 +443,7 @@ public final class PromiseTest {
         due("closed, to itself", x.steps(1, 1), -4);
         due("steps(-1, 0)", x.steps(-1, 0), -1);
         due("steps(0, 36)", x.steps(0, 36), -1);
-        due("not from the end of a row to the next one's begin", only(0, 20, 5, 6).steps(5, 6), -4);
+        due("not from the end of a row to the next one's begin", Lands.only(0, 20, 5, 6).steps(5, 6), -4);
     }
 
     private static void pairs() {
@@ -519,7 +452,7 @@ public final class PromiseTest {
         int many = 0;
         for (int his = 0; his < 36; his++) {
             for (int hers = 0; hers < 36; hers++) {
-                if (apart(his, hers) >= 3 && apart(his, hers) <= 6) {
+                if (Lands.apart(his, hers) >= 3 && Lands.apart(his, hers) <= 6) {
                     if (many % 40 == 0) {
                         due("pairs(" + many + ")", x.pairs(many), 100 * his + hers);
                     }
@@ -529,10 +462,10 @@ public final class PromiseTest {
         }
         due("pairs(-1)", x.pairs(-1), many);
         due("pairs(many)", x.pairs(many), -4);
-        due("pairs(MOST)", x.pairs(MOST), -4);
+        due("pairs(MOST)", x.pairs(Lands.MOST), -4);
         due("pairs(-2)", x.pairs(-2), -1);
-        due("pairs(LEAST)", x.pairs(LEAST), -1);
-        x = only(0, 1, 0, 1, 3);
+        due("pairs(LEAST)", x.pairs(Lands.LEAST), -1);
+        x = Lands.only(0, 1, 0, 1, 3);
         int[] pairs = {0, 1, 100, 101, 303};
         for (int i = 0; i < pairs.length; i++) {
             due("pairs(" + i + ")", x.pairs(i), pairs[i]);
@@ -548,9 +481,9 @@ public final class PromiseTest {
     private static void islands() {
         on(11);
         due("one", new NineMilesOff().islands(), 1);
-        due("none", only(0, 20).islands(), 0);
-        due("two, row's end beside row's begin", only(0, 20, 5, 6).islands(), 2);
-        NineMilesOff x = only(0, 20, 0, 7, 14, 21, 28, 35, 34);
+        due("none", Lands.only(0, 20).islands(), 0);
+        due("two, row's end beside row's begin", Lands.only(0, 20, 5, 6).islands(), 2);
+        NineMilesOff x = Lands.only(0, 20, 0, 7, 14, 21, 28, 35, 34);
         due("five", x.islands(), 5);
         x.set(2, 1);
         due("all by WINTER", x.islands(), 1);
@@ -558,7 +491,7 @@ public final class PromiseTest {
 
     private static void island() {
         on(12);
-        NineMilesOff x = only(0, 20, 0, 1, 2, 8, 14, 35, 30);
+        NineMilesOff x = Lands.only(0, 20, 0, 1, 2, 8, 14, 35, 30);
         due("island(0)", x.island(0), 5);
         due("island(14)", x.island(14), 5);
         due("island(35)", x.island(35), 1);
@@ -575,19 +508,19 @@ public final class PromiseTest {
         due("middle(1)", x.middle(1), 6);
         due("middle(2)", x.middle(2), -1);
         due("middle(-1)", x.middle(-1), -1);
-        x = only(0, 20, 0, 1, 30, 31, 32, 33, 34);
+        x = Lands.only(0, 20, 0, 1, 30, 31, 32, 33, 34);
         due("of the largest", x.middle(0), 32);
         due("steps", x.middle(1), 2);
-        x = only(0, 20, 2, 3, 4, 5, 30, 31, 32, 33);
+        x = Lands.only(0, 20, 2, 3, 4, 5, 30, 31, 32, 33);
         due("of two as large that with the least cell, of two the least", x.middle(0), 3);
         due("steps", x.middle(1), 2);
-        x = only(0, 20, 20);
+        x = Lands.only(0, 20, 20);
         due("one alone", x.middle(0), 20);
         due("steps", x.middle(1), 0);
-        x = only(0, 20, 0);
+        x = Lands.only(0, 20, 0);
         due("the first alone", x.middle(0), 0);
         due("steps", x.middle(1), 0);
-        x = only(0, 20);
+        x = Lands.only(0, 20);
         due("none", x.middle(0), -4);
         due("none", x.middle(1), -4);
     }
@@ -596,7 +529,7 @@ public final class PromiseTest {
 
     private static void see() {
         on(14);
-        NineMilesOff x = put(only(1, 2, 0, 1, 2, 3, 4, 5), 0, 1);
+        NineMilesOff x = Lands.put(Lands.only(1, 2, 0, 1, 2, 3, 4, 5), 0, 1);
         due("where they are", x.see(0, 1), 0);
         due("they change", x.see(1, 0), 1);
         due("along", x.see(3, 4), 3);
@@ -610,7 +543,7 @@ public final class PromiseTest {
         due("not a pair now", x.see(0, 2), -4);
         due("not a pair now", x.see(0, 1), -4);
         x.set(0, 1);
-        lay(x, 5, 0, 0);
+        Lands.lay(x, 5, 0, 0);
         due("he is on a closed one now", x.see(1, 2), -4);
         x = new NineMilesOff();
         due("nobody, no cell", x.see(36, 0), -1);
@@ -620,30 +553,30 @@ public final class PromiseTest {
         x = new NineMilesOff();
         x.stands(1, 0);
         due("he is nowhere", x.see(0, 3), -3);
-        x = put(only(3, 3, 0, 1, 2, 3, 4, 5), 0, 3);
+        x = Lands.put(Lands.only(3, 3, 0, 1, 2, 3, 4, 5), 0, 3);
         due("just so far", x.see(2, 5), 2);
         due("they can not come by each other", x.see(5, 2), -4);
-        x = put(only(0, 1, 0, 1, 2, 8, 14, 13, 12, 6), 0, 0);
+        x = Lands.put(Lands.only(0, 1, 0, 1, 2, 8, 14, 13, 12, 6), 0, 0);
         due("round", x.see(14, 14), 4);
         due("steps would be 3", x.see(12, 14), -4);
     }
 
     private static void way() {
         on(15);
-        NineMilesOff x = put(plains(1, 6), 1, 2);
+        NineMilesOff x = Lands.put(Lands.plains(1, 6), 1, 2);
         int[] pairs = {102, 3, 4, 105};
         for (int n = 0; n < pairs.length; n++) {
             due("way(1, 5, " + n + ")", x.way(1, 5, n), pairs[n]);
         }
         due("beyond", x.way(1, 5, 4), -4);
-        due("beyond", x.way(1, 5, MOST), -4);
+        due("beyond", x.way(1, 5, Lands.MOST), -4);
         due("now", x.way(1, 2, 0), 102);
         due("beyond now", x.way(1, 2, 1), -4);
         due("none", x.way(1, 1, 0), -4);
         due("below 0", x.way(1, 5, -1), -1);
         due("no cell", x.way(36, 5, 0), -1);
         due("no cell", x.way(1, -1, 0), -1);
-        x = put(plains(0, 20), 35, 2);
+        x = Lands.put(Lands.plains(0, 20), 35, 2);
         int[] home = {3502, 2901, 2300, 1700, 1100, 500};
         for (int n = 0; n < home.length; n++) {
             due("way(5, 0, " + n + ")", x.way(5, 0, n), home[n]);
@@ -651,7 +584,7 @@ public final class PromiseTest {
         x = new NineMilesOff();
         due("nobody, below 0", x.way(1, 5, -1), -1);
         due("nobody", x.way(1, 5, 0), -3);
-        x = put(plains(0, 20), 14, 14);
+        x = Lands.put(Lands.plains(0, 20), 14, 14);
         int[] least = {1414, 808, 202, 101, 2};
         x.set(1, 3);
         for (int n = 0; n < least.length; n++) {
@@ -661,26 +594,26 @@ public final class PromiseTest {
 
     private static void hinders() {
         on(16);
-        NineMilesOff x = put(only(0, 3, 0, 1, 3, 4, 5), 0, 1);
+        NineMilesOff x = Lands.put(Lands.only(0, 3, 0, 1, 3, 4, 5), 0, 1);
         due("the one between", x.hinders(3, 4), 2);
         due("it can be", x.hinders(1, 0), -4);
-        due("it can be, by each other", put(only(1, 3, 0, 1, 2, 4), 0, 1).hinders(2, 1), -4);
-        due("the first cell", put(only(0, 2, 1, 6), 1, 1).hinders(6, 6), 0);
+        due("it can be, by each other", Lands.put(Lands.only(1, 3, 0, 1, 2, 4), 0, 1).hinders(2, 1), -4);
+        due("the first cell", Lands.put(Lands.only(0, 2, 1, 6), 1, 1).hinders(6, 6), 0);
         due("no such cell", x.hinders(0, 36), -1);
         due("no such cell", x.hinders(-1, 0), -1);
-        lay(x, 5, 0, 4);
+        Lands.lay(x, 5, 0, 4);
         due("two lack", x.hinders(5, 5), -4);
         due("the land stays", x.count(8), 4);
         x = new NineMilesOff();
         due("nobody", x.hinders(0, 3), -3);
         due("nobody, no cell", x.hinders(0, 36), -1);
-        x = plains(0, 20);
-        lay(x, 5, 0, 2, 8, 14, 20, 26, 32);
-        put(x, 12, 0);
+        x = Lands.plains(0, 20);
+        Lands.lay(x, 5, 0, 2, 8, 14, 20, 26, 32);
+        Lands.put(x, 12, 0);
         due("soonest", x.hinders(15, 0), 14);
-        put(x, 30, 0);
+        Lands.put(x, 30, 0);
         due("soonest", x.hinders(33, 0), 32);
-        put(x, 6, 0);
+        Lands.put(x, 6, 0);
         due("of several the least", x.hinders(15, 0), 8);
         due("the goal itself", x.hinders(14, 0), 14);
         due("hers, too", x.hinders(6, 26), 26);
@@ -689,19 +622,19 @@ public final class PromiseTest {
 
     private static void hindersEdges() {
         on(16);
-        NineMilesOff x = put(plains(0, 20), 7, 0);
-        lay(x, 5, 0, 7);
+        NineMilesOff x = Lands.put(Lands.plains(0, 20), 7, 0);
+        Lands.lay(x, 5, 0, 7);
         due("he stands on it", x.hinders(8, 0), 7);
         due("stay there", x.hinders(7, 0), 7);
-        lay(x, 5, 0, 0);
+        Lands.lay(x, 5, 0, 0);
         due("both stand on closed ones", x.hinders(8, 1), -4);
-        x = put(plains(1, 5), 1, 0);
+        x = Lands.put(Lands.plains(1, 5), 1, 0);
         x.set(2, 1);
-        lay(x, 3, 9, 2, 8, 14, 20, 26, 32);
+        Lands.lay(x, 3, 9, 2, 8, 14, 20, 26, 32);
         due("its HEIGHT stays", x.hinders(3, 1), -4);
         x.set(1, 6);
         due("its HEIGHT stays", x.hinders(3, 1), 2);
-        x = put(only(0, 1, 0, 1, 12), 0, 0);
+        x = Lands.put(Lands.only(0, 1, 0, 1, 12), 0, 0);
         due("FAR stays, too", x.hinders(12, 0), -4);
         x.set(1, 2);
         due("the step between", x.hinders(12, 0), 6);
@@ -709,7 +642,7 @@ public final class PromiseTest {
 
     private static void needs() {
         on(17);
-        NineMilesOff x = put(only(1, 2, 0, 1, 2, 3, 4, 5), 0, 1);
+        NineMilesOff x = Lands.put(Lands.only(1, 2, 0, 1, 2, 3, 4, 5), 0, 1);
         due("needs(0, 5)", x.needs(0, 5), 5);
         due("needs(3, 4)", x.needs(3, 4), 1);
         due("where they are", x.needs(0, 1), 1);
@@ -718,26 +651,26 @@ public final class PromiseTest {
         due("FARTHEST stays", x.count(6), 2);
         due("no such cell", x.needs(36, 0), -1);
         due("no such cell", x.needs(0, -1), -1);
-        put(x, 0, 5);
+        Lands.put(x, 0, 5);
         due("now, too", x.needs(0, 1), 5);
         x.set(0, 0);
-        put(x, 2, 2);
+        Lands.put(x, 2, 2);
         due("none", x.needs(2, 2), 0);
-        x = put(only(0, 0, 0, 1, 2, 8, 14, 13, 12, 18, 24, 25, 26, 27, 28, 22, 16, 10, 4), 0, 0);
+        x = Lands.put(Lands.only(0, 0, 0, 1, 2, 8, 14, 13, 12, 18, 24, 25, 26, 27, 28, 22, 16, 10, 4), 0, 0);
         due("together", x.needs(4, 4), 0);
         due("least by the way", x.needs(4, 0), 4);
         due("least by the way", x.needs(0, 28), 8);
         x = new NineMilesOff();
         due("nobody", x.needs(0, 0), -3);
         due("nobody, no cell", x.needs(0, 36), -1);
-        x = plains(0, 20);
-        lay(x, 3, 9, 35);
-        put(x, 0, 0);
+        x = Lands.plains(0, 20);
+        Lands.lay(x, 3, 9, 35);
+        Lands.put(x, 0, 0);
         due("greatest", x.needs(0, 35), 15);
     }
 
     private static NineMilesOff threeCells() {
-        return put(only(1, 2, 0, 1, 2), 0, 1);
+        return Lands.put(Lands.only(1, 2, 0, 1, 2), 0, 1);
     }
 
     private static void within() {
@@ -777,9 +710,9 @@ public final class PromiseTest {
         due("nobody", x.ways(11), -1000000001L);
         x.stands(1, 0);
         due("he is nowhere", x.ways(0), -1000000003L);
-        x = put(only(0, 20, 0, 1), 0, 0);
+        x = Lands.put(Lands.only(0, 20, 0, 1), 0, 0);
         due("four each day", x.ways(10), 1048576);
-        x = put(plains(0, 20), 14, 21);
+        x = Lands.put(Lands.plains(0, 20), 14, 21);
         due("all", x.ways(1), 25);
         due("all", x.ways(10), square(lines(14, 10)));
     }
@@ -792,7 +725,7 @@ public final class PromiseTest {
             long[] next = new long[36];
             for (int a = 0; a < 36; a++) {
                 for (int b = 0; b < 36; b++) {
-                    next[b] += apart(a, b) <= 1 ? walks[a] : 0;
+                    next[b] += Lands.apart(a, b) <= 1 ? walks[a] : 0;
                 }
             }
             walks = next;
@@ -820,14 +753,14 @@ public final class PromiseTest {
         due("nobody", x.rounds(11), -1000000001L);
         x.stands(0, 0);
         due("she is nowhere", x.rounds(0), -1000000003L);
-        due("a quarter", put(only(0, 20, 0, 1), 0, 0).rounds(10), 262144);
+        due("a quarter", Lands.put(Lands.only(0, 20, 0, 1), 0, 0).rounds(10), 262144);
     }
 
     // ---- letters
 
     private static void late() {
         on(21);
-        NineMilesOff x = only(2, 4, 0, 1, 2, 3, 4, 5);
+        NineMilesOff x = Lands.only(2, 4, 0, 1, 2, 3, 4, 5);
         due("he is nowhere", x.late(5, 0), -3);
         x.stands(0, 2);
         due("she was on 5", x.late(5, 0), 1 + 4);
@@ -850,33 +783,33 @@ public final class PromiseTest {
         due("late(0, -1)", x.late(0, -1), -1);
         due("late(0, 9)", x.late(0, 9), -1);
         due("no such day, closed", x.late(6, 9), -1);
-        x = plains(0, 20);
+        x = Lands.plains(0, 20);
         x.stands(0, 14);
         due("all five", x.late(0, 8), 31);
-        lay(x, 5, 0, 14, 8);
+        Lands.lay(x, 5, 0, 14, 8);
         due("from a closed one, not up", x.late(0, 0), 29);
     }
 
     private static void hisWay() {
         on(22);
-        NineMilesOff x = only(2, 3, 0, 1, 2, 3, 4, 5);
+        NineMilesOff x = Lands.only(2, 3, 0, 1, 2, 3, 4, 5);
         for (int sort = 0; sort < 3; sort++) {
-            numbers(x, sort, sort, 0, 1);
+            Lands.numbers(x, sort, sort, 0, 1);
             due("cells", x.hisWay(sort, 0), 8 + 16);
             due("how many", x.hisWay(sort, 1), 2);
         }
-        numbers(x, 0, 0, 0);
+        Lands.numbers(x, 0, 0, 0);
         due("the first end", x.hisWay(0, 0), 4 + 8);
-        numbers(x, 0, 0, 0, 5);
+        Lands.numbers(x, 0, 0, 0, 5);
         due("he may leap", x.hisWay(0, 0), 4 + 8);
-        numbers(x, 0, 0, 0, 4);
+        Lands.numbers(x, 0, 0, 0, 4);
         due("he may leap", x.hisWay(0, 0), 2 + 4);
-        numbers(x, 0, 0, 7);
+        Lands.numbers(x, 0, 0, 7);
         due("his may be closed", x.hisWay(0, 0), 1 + 4 + 8);
-        numbers(x, 0, 0, 35);
+        Lands.numbers(x, 0, 0, 35);
         due("none", x.hisWay(0, 0), 0);
         due("none", x.hisWay(0, 1), 0);
-        numbers(x, 0, 0, 0, 35, 0);
+        Lands.numbers(x, 0, 0, 0, 35, 0);
         due("lost on the way", x.hisWay(0, 1), 0);
         due("hisWay(0, 2)", x.hisWay(0, 2), -1000000001L);
         due("hisWay(0, -1)", x.hisWay(0, -1), -1000000001L);
@@ -887,45 +820,45 @@ public final class PromiseTest {
         due("a ground", x.hisWay(6, 0), -1000000012L);
         x.row(0, 0, 0);
         due("no numbers", x.hisWay(0, 0), -1000000013L);
-        for (int number : new int[] {-1, 36, LEAST}) {
-            numbers(x, 0, 1, 0, 1, number);
+        for (int number : new int[] {-1, 36, Lands.LEAST}) {
+            Lands.numbers(x, 0, 1, 0, 1, number);
             due("no cell " + number, x.hisWay(0, 1), -1000000013L);
         }
-        NineMilesOff all = plains(0, 20);
-        numbers(all, 0, 0, 0);
+        NineMilesOff all = Lands.plains(0, 20);
+        Lands.numbers(all, 0, 0, 0);
         due("all", all.hisWay(0, 0), (1L << 36) - 1);
         due("all", all.hisWay(0, 1), 36);
     }
 
     private static void letter() {
         on(23);
-        NineMilesOff x = only(2, 3, 0, 1, 2, 3, 4, 5);
+        NineMilesOff x = Lands.only(2, 3, 0, 1, 2, 3, 4, 5);
         for (int sort = 0; sort < 3; sort++) {
-            numbers(x, sort, sort, 0, 1);
+            Lands.numbers(x, sort, sort, 0, 1);
             due("the last", x.letter(sort), 1);
         }
-        numbers(x, 0, 0, 0);
+        Lands.numbers(x, 0, 0, 0);
         due("one alone", x.letter(0), 0);
-        numbers(x, 0, 0, 0, 4);
+        Lands.numbers(x, 0, 0, 0, 4);
         due("the last", x.letter(0), 1);
-        numbers(x, 0, 0, 35);
+        Lands.numbers(x, 0, 0, 35);
         due("none", x.letter(0), -4);
-        numbers(x, 0, 0, 0, 35, 0);
+        Lands.numbers(x, 0, 0, 0, 35, 0);
         due("none", x.letter(0), -4);
-        numbers(x, 0, 0, 3, 2);
+        Lands.numbers(x, 0, 0, 3, 2);
         due("she may be on the first cell", x.letter(0), 1);
-        numbers(x, 0, 0, 0, 0, 5, 5, 4);
+        Lands.numbers(x, 0, 0, 0, 0, 5, 5, 4);
         due("not the last", x.letter(0), 4);
         x.set(0, 5);
         x.set(1, 5);
-        numbers(x, 0, 0, 0, 0, 0);
+        Lands.numbers(x, 0, 0, 0, 0, 0);
         due("of several the first", x.letter(0), 0);
-        numbers(x, 0, 0, 0, 1);
+        Lands.numbers(x, 0, 0, 0, 1);
         due("none", x.letter(0), -4);
         x.set(0, 4);
-        numbers(x, 0, 0, 0, 1, 1);
+        Lands.numbers(x, 0, 0, 0, 1, 1);
         due("of several the first", x.letter(0), 0);
-        numbers(x, 0, 0, 0, 1, 0);
+        Lands.numbers(x, 0, 0, 0, 1, 0);
         due("told on the last", x.letter(0), 2);
         due("letter(8)", x.letter(8), -1);
         due("letter(-1)", x.letter(-1), -1);
@@ -933,34 +866,34 @@ public final class PromiseTest {
         due("a ground", x.letter(6), -12);
         x.row(0, 0, 0);
         due("no numbers", x.letter(0), -13);
-        numbers(x, 0, 1, 0, 36);
+        Lands.numbers(x, 0, 1, 0, 36);
         due("no cell", x.letter(0), -13);
-        numbers(x, 0, 1, -1, 0);
+        Lands.numbers(x, 0, 1, -1, 0);
         due("no cell", x.letter(0), -13);
     }
 
     private static void third() {
         on(24);
-        NineMilesOff x = plains(1, 1);
+        NineMilesOff x = Lands.plains(1, 1);
         due("nobody", x.third(0), -3);
         due("nobody", x.third(2), -1);
-        put(x, 0, 2);
+        Lands.put(x, 0, 2);
         due("between", x.third(0), 1);
         due("the least", x.third(1), 1);
         due("third(-1)", x.third(-1), -1);
-        put(x, 7, 14);
+        Lands.put(x, 7, 14);
         due("two", x.third(0), 2);
         due("the least", x.third(1), 8);
-        lay(x, 5, 0, 8);
+        Lands.lay(x, 5, 0, 8);
         due("open ones", x.third(0), 1);
         due("the least", x.third(1), 13);
-        put(x, 0, 35);
+        Lands.put(x, 0, 35);
         due("none", x.third(0), 0);
         due("none", x.third(1), -4);
-        x = put(plains(0, 20), 0, 35);
+        x = Lands.put(Lands.plains(0, 20), 0, 35);
         due("all", x.third(0), 36);
         due("the least", x.third(1), 0);
-        x = plains(0, 20);
+        x = Lands.plains(0, 20);
         x.stands(0, 0);
         due("she is nowhere", x.third(0), -3);
     }
@@ -969,7 +902,7 @@ public final class PromiseTest {
 
     private static void game() {
         on(25);
-        NineMilesOff x = only(0, 20, 0, 1, 2, 3, 4, 5);
+        NineMilesOff x = Lands.only(0, 20, 0, 1, 2, 3, 4, 5);
         due("nobody", x.game(0), -3);
         due("nobody", x.game(2), -1);
         x.stands(0, 0);
@@ -978,25 +911,25 @@ public final class PromiseTest {
         due("he comes, she goes", x.game(0), 33);
         due("least far", x.game(1), 3);
         due("game(-1)", x.game(-1), -1);
-        put(x, 0, 5);
+        Lands.put(x, 0, 5);
         due("she can only stay", x.game(0), 30);
         due("least far", x.game(1), 4);
-        x = put(only(0, 20, 0, 1, 2), 1, 1);
+        x = Lands.put(Lands.only(0, 20, 0, 1, 2), 1, 1);
         due("none", x.game(0), -4);
         due("least far", x.game(1), 1);
-        x = put(plains(0, 20), 35, 0);
+        x = Lands.put(Lands.plains(0, 20), 35, 0);
         due("the corners", x.game(0), 10);
         due("least far", x.game(1), 9);
-        put(x, 0, 35);
+        Lands.put(x, 0, 35);
         due("the corners", x.game(0), 30);
         due("least far", x.game(1), 9);
-        x = put(only(0, 20, 7, 10), 7, 10);
+        x = Lands.put(Lands.only(0, 20, 7, 10), 7, 10);
         due("both can only stay", x.game(0), 0);
         due("least far", x.game(1), 3);
-        x = put(plains(0, 20), 14, 16);
+        x = Lands.put(Lands.plains(0, 20), 14, 16);
         due("the first of several", x.game(0), 31);
         due("least far", x.game(1), 2);
-        lay(x, 5, 0, 14);
+        Lands.lay(x, 5, 0, 14);
         due("he goes off a closed one", x.game(0), 31);
         x.set(0, 20);
         due("OFF does not matter", x.game(0), 31);
@@ -1011,54 +944,54 @@ public final class PromiseTest {
     private static void snow() {
         on(26);
         fraction(new NineMilesOff(), 0, 35, 1, 1);
-        NineMilesOff x = only(0, 20, 0, 1, 2);
+        NineMilesOff x = Lands.only(0, 20, 0, 1, 2);
         fraction(x, 0, 2, 1, 1);
         fraction(x, 0, 3, 0, 1);
         fraction(x, 3, 3, 0, 1);
-        lay(x, 7, 3, 1);
+        Lands.lay(x, 7, 3, 1);
         fraction(x, 0, 2, 7, 10);
         fraction(x, 0, 0, 1, 1);
         fraction(x, 1, 1, 7, 10);
-        lay(x, 3, 0, 0);
+        Lands.lay(x, 3, 0, 0);
         fraction(x, 0, 2, 7, 20);
         fraction(x, 2, 0, 7, 20);
         fraction(x, 1, 2, 7, 10);
-        lay(x, 2, 0, 2);
+        Lands.lay(x, 2, 0, 2);
         fraction(x, 0, 2, 63, 200);
         x.set(2, 1);
         fraction(x, 0, 2, 63, 200);
-        x = only(0, 20, 0, 1, 6, 7);
-        lay(x, 7, 5, 1, 6);
+        x = Lands.only(0, 20, 0, 1, 6, 7);
+        Lands.lay(x, 7, 5, 1, 6);
         fraction(x, 0, 7, 3, 4);
-        lay(x, 6, 0, 1);
-        lay(x, 4, 9, 6);
+        Lands.lay(x, 6, 0, 1);
+        Lands.lay(x, 4, 9, 6);
         fraction(x, 0, 7, 24, 25);
-        lay(x, 5, 0, 6);
+        Lands.lay(x, 5, 0, 6);
         fraction(x, 0, 7, 4, 5);
     }
 
     private static void snowEdges() {
         on(26);
-        NineMilesOff x = only(0, 20, 0, 1, 2, 3, 4, 5, 11, 17, 23);
-        lay(x, 7, 9, 1, 2, 3, 4, 5, 11, 17, 23);
+        NineMilesOff x = Lands.only(0, 20, 0, 1, 2, 3, 4, 5, 11, 17, 23);
+        Lands.lay(x, 7, 9, 1, 2, 3, 4, 5, 11, 17, 23);
         fraction(x, 0, 23, 1, 100000000);
-        lay(x, 7, 1, 0);
+        Lands.lay(x, 7, 1, 0);
         due("nine unsure", x.snow(0, 23, 0), -1000000003L);
         due("nine unsure elsewhere", x.snow(30, 30, 1), -1000000003L);
         due("no cell", x.snow(-1, 0, 0), -1000000001L);
         due("no cell", x.snow(0, 36, 0), -1000000001L);
         due("no part", x.snow(0, 0, 2), -1000000001L);
         due("no part", x.snow(0, 0, -1), -1000000001L);
-        lay(x, 7, 0, 0);
+        Lands.lay(x, 7, 0, 0);
         fraction(x, 0, 1, 1, 10);
         fraction(x, 0, 6, 0, 1);
-        lay(x, 2, 0, 1, 2, 3, 4, 5, 11, 17, 23);
+        Lands.lay(x, 2, 0, 1, 2, 3, 4, 5, 11, 17, 23);
         fraction(x, 0, 23, 43046721, 100000000);
     }
 
     private static void mean() {
         on(27);
-        NineMilesOff x = only(1, 2, 0, 1, 2);
+        NineMilesOff x = Lands.only(1, 2, 0, 1, 2);
         due("above", x.mean(0), 4);
         due("below", x.mean(1), 3);
         due("no part", x.mean(2), -1000000001L);
@@ -1074,7 +1007,7 @@ public final class PromiseTest {
         x.set(1, 2);
         due("whole", x.mean(0), 2);
         due("whole", x.mean(1), 1);
-        lay(x, 3, 9, 0);
+        Lands.lay(x, 3, 9, 0);
         x.set(0, 0);
         x.set(1, 20);
         due("heights, too", x.mean(0), 28);
@@ -1083,7 +1016,7 @@ public final class PromiseTest {
 
     private static void curve() {
         on(28);
-        NineMilesOff x = only(1, 3, 0, 1, 2);
+        NineMilesOff x = Lands.only(1, 3, 0, 1, 2);
         int[] many = {0, 4, 6, 6};
         for (int v = 0; v < many.length; v++) {
             due("curve(" + v + ")", x.curve(v), many[v]);
@@ -1099,13 +1032,13 @@ public final class PromiseTest {
     // ---- told ways, walks by seeds
 
     private static int judged(NineMilesOff x, int sort, int... numbers) {
-        numbers(x, 0, sort, numbers);
+        Lands.numbers(x, 0, sort, numbers);
         return x.judge(0);
     }
 
     private static void judge() {
         on(29);
-        NineMilesOff x = plains(0, 20);
+        NineMilesOff x = Lands.plains(0, 20);
         x.row(0, 0, 0);
         due("he is nowhere", x.judge(0), -3);
         due("he is nowhere, nothing held", x.judge(5), -3);
@@ -1127,9 +1060,9 @@ public final class PromiseTest {
         x.stands(0, 34);
         due("no cell", judged(x, 1, 34, 35, 36), 2);
         due("no cell", judged(x, 1, 34, 34 + 64), 1);
-        due("no cell", judged(x, 2, 34, LEAST), 1);
-        due("no cell", judged(x, 1, 34, MOST), 1);
-        lay(x, 5, 0, 35, 34);
+        due("no cell", judged(x, 2, 34, Lands.LEAST), 1);
+        due("no cell", judged(x, 1, 34, Lands.MOST), 1);
+        Lands.lay(x, 5, 0, 35, 34);
         due("not open", judged(x, 1, 34, 33, 34), 2);
         due("his own closed one", judged(x, 1, 34), -4);
         due("stays on it", judged(x, 1, 34, 34), 1);
@@ -1139,15 +1072,15 @@ public final class PromiseTest {
 
     private static void judgeSkips() {
         on(29);
-        NineMilesOff x = only(0, 20, 0, 1, 2, 3, 9, 15, 14, 13, 12, 35);
+        NineMilesOff x = Lands.only(0, 20, 0, 1, 2, 3, 9, 15, 14, 13, 12, 35);
         x.stands(0, 0);
         due("bytes", judged(x, 0, 0, -128, 2), -4);
         due("bytes", judged(x, 0, 0, 128, 2), -4);
         due("bytes", judged(x, 0, 0, -127, 2), 1);
-        due("ints", judged(x, 1, 0, LEAST, 2), -4);
-        due("ints", judged(x, 1, 0, LEAST + 1, 2), 1);
+        due("ints", judged(x, 1, 0, Lands.LEAST, 2), -4);
+        due("ints", judged(x, 1, 0, Lands.LEAST + 1, 2), 1);
         due("ints", judged(x, 1, 0, -128, 2), 1);
-        due("longs have no least one here", judged(x, 2, 0, LEAST, 2), 1);
+        due("longs have no least one here", judged(x, 2, 0, Lands.LEAST, 2), 1);
         due("it is too far", judged(x, 0, 0, -128, 3), 2);
         due("two skipped", judged(x, 0, 0, -128, -128, 3), -4);
         due("two skipped", judged(x, 0, 0, -128, -128, 9), 3);
@@ -1163,7 +1096,7 @@ public final class PromiseTest {
         due("the first skipped is his", judged(x, 0, -128, -128, 2), -4);
         due("from the last that is told", judged(x, 0, 0, 1, -128, 9), 3);
         due("from the last that is told", judged(x, 0, 0, 1, 2, -128, 9), -4);
-        lay(x, 5, 0, 0);
+        Lands.lay(x, 5, 0, 0);
         due("skips off a closed one", judged(x, 0, 0, -128, 2), -4);
         due("skips back onto it", judged(x, 0, 0, -128, 0), 2);
     }
@@ -1181,7 +1114,7 @@ public final class PromiseTest {
         due("seeds(-1, 0, 0)", x.seeds(-1, 0, 0), -1);
         due("seeds(1, 0, 2)", x.seeds(1, 0, 2), -1);
         due("seeds(1, 0, -1)", x.seeds(1, 0, -1), -1);
-        x = put(only(4, 2, 0, 3), 0, 3);
+        x = Lands.put(Lands.only(4, 2, 0, 3), 0, 3);
         due("both can only stay", x.seeds(1, 5, 0), 20);
         due("both can only stay", x.seeds(20, -5, 0), 400);
         due("both can only stay", x.seeds(20, 5, 1), 400);
@@ -1189,8 +1122,8 @@ public final class PromiseTest {
         due("none", x.seeds(20, 5, 0), 0);
         x.set(1, 3);
         due("none", x.seeds(20, 5, 1), 0);
-        x = put(plains(3, 3), 14, 21);
-        for (int z : new int[] {0, 1, -1, LEAST, MOST, 123456789}) {
+        x = Lands.put(Lands.plains(3, 3), 14, 21);
+        for (int z : new int[] {0, 1, -1, Lands.LEAST, Lands.MOST, 123456789}) {
             for (int n : new int[] {1, 2, 20}) {
                 due("seeds(" + n + ", " + z + ", 0)", x.seeds(n, z, 0), walked(n, z, true));
                 due("seeds(" + n + ", " + z + ", 1)", x.seeds(n, z, 1), walked(n, z, false));
@@ -1207,9 +1140,9 @@ public final class PromiseTest {
 
     private static int drawn(int cell) {
         seed = seed * 1103515245 + 12345;
-        int draw = (seed & MOST) / 65536 % 5;
+        int draw = (seed & Lands.MOST) / 65536 % 5;
         int to = cell + new int[] {0, -6, -1, 1, 6}[draw];
-        return to < 0 || to > 35 || apart(cell, to) > 1 ? cell : to;
+        return to < 0 || to > 35 || Lands.apart(cell, to) > 1 ? cell : to;
     }
 
     /** Walks on PLAINS from 14 and 21 with NEAREST and FARTHEST 3. */
@@ -1222,7 +1155,7 @@ public final class PromiseTest {
             for (int day = 0; day < 20; day++) {
                 his = drawn(his);
                 hers = drawn(hers);
-                days += (stopped ? apart(his, hers) < 3 : apart(his, hers) > 3) ? 1 : 0;
+                days += (stopped ? Lands.apart(his, hers) < 3 : Lands.apart(his, hers) > 3) ? 1 : 0;
             }
         }
         return days;
@@ -1232,7 +1165,7 @@ public final class PromiseTest {
 
     private static void image() {
         on(31);
-        NineMilesOff x = put(plains(0, 20), 0, 1);
+        NineMilesOff x = Lands.put(Lands.plains(0, 20), 0, 1);
         due("image()", x.image(), 0);
         x.go(0, 0);
         x.go(3, 3);
@@ -1245,12 +1178,12 @@ public final class PromiseTest {
 
     private static void restore() {
         on(32);
-        NineMilesOff x = put(plains(1, 1), 0, 0);
+        NineMilesOff x = Lands.put(Lands.plains(1, 1), 0, 0);
         due("none", x.restore(), -3);
         x.go(0, 0);
         x.go(4, 3);
-        lay(x, 3, 4, 20);
-        lay(x, 4, 3, 0);
+        Lands.lay(x, 3, 4, 20);
+        Lands.lay(x, 4, 3, 0);
         x.set(2, 1);
         x.keep(0, 1, 2, 5);
         x.image();
@@ -1262,13 +1195,13 @@ public final class PromiseTest {
             x.set(2, 0);
             x.set(0, 8);
             x.set(1, 9);
-            put(x, 35, 34);
+            Lands.put(x, 35, 34);
             x.go(0, 0);
             x.set(1, 0);
             x.go(0, 0);
-            lay(x, 5, 1, 0, 20, 21, 35);
+            Lands.lay(x, 5, 1, 0, 20, 21, 35);
             x.keep(0, 1, 1, 6);
-            numbers(x, 1, 1, 77);
+            Lands.numbers(x, 1, 1, 77);
             due("restore()", x.restore(), 2);
             for (int what = 0; what < 9; what++) {
                 due("count(" + what + ")", x.count(what), then[what]);
@@ -1290,23 +1223,23 @@ public final class PromiseTest {
 
     private static void count() {
         on(33);
-        NineMilesOff x = plains(2, 3);
+        NineMilesOff x = Lands.plains(2, 3);
         due("HE", x.count(0), -4);
         due("SHE", x.count(1), -4);
-        put(x, 8, 9);
+        Lands.put(x, 8, 9);
         x.go(0, 0);
         x.go(0, 3);
         x.go(1, 3);
         x.go(2, 0);
         x.set(2, 1);
-        lay(x, 3, 0, 30, 31);
+        Lands.lay(x, 3, 0, 30, 31);
         int[] counts = {1, 11, 4, 1, 2, 2, 3, 1, 34};
         for (int what = 0; what < 9; what++) {
             due("count(" + what + ")", x.count(what), counts[what]);
         }
         due("count(9)", x.count(9), -1);
         due("count(-1)", x.count(-1), -1);
-        due("count(LEAST)", x.count(LEAST), -1);
+        due("count(LEAST)", x.count(Lands.LEAST), -1);
     }
 
     // ---- shelves
@@ -1348,7 +1281,7 @@ public final class PromiseTest {
         due("empty", x.put(7, 0, 0), -13);
         due("row(0, 0, 101)", x.row(0, 0, 101), -1);
         due("row(0, 0, -1)", x.row(0, 0, -1), -14);
-        due("row(0, 0, LEAST)", x.row(0, 0, LEAST), -14);
+        due("row(0, 0, Lands.LEAST)", x.row(0, 0, Lands.LEAST), -14);
         due("row(8, 0, -1)", x.row(8, 0, -1), -1);
         due("row(-1, 0, 0)", x.row(-1, 0, 0), -1);
         due("row(0, 3, 0)", x.row(0, 3, 0), -1);
@@ -1362,7 +1295,7 @@ public final class PromiseTest {
     private static void put() {
         on(36);
         NineMilesOff x = new NineMilesOff();
-        int[] numbers = {0, 127, 128, 255, 256, -1, -129, 300, LEAST, MOST};
+        int[] numbers = {0, 127, 128, 255, 256, -1, -129, 300, Lands.LEAST, Lands.MOST};
         long[] bytes = {0, 127, -128, -1, 0, -1, 127, 44, 0, -1};
         for (int i = 0; i < numbers.length; i++) {
             for (int sort = 0; sort < 3; sort++) {
@@ -1378,8 +1311,8 @@ public final class PromiseTest {
         due("a ground", x.put(1, 0, 0), -12);
         due("no place", x.put(0, 10, 0), -13);
         due("no place", x.put(0, -1, 0), -13);
-        due("no place", x.put(0, MOST, 0), -13);
-        due("no place", x.put(0, LEAST, 0), -13);
+        due("no place", x.put(0, Lands.MOST, 0), -13);
+        due("no place", x.put(0, Lands.LEAST, 0), -13);
     }
 
     private static int thrown(NineMilesOff x, int d, int i) {
@@ -1394,7 +1327,7 @@ public final class PromiseTest {
     private static void element() {
         on(37);
         NineMilesOff x = new NineMilesOff();
-        numbers(x, 0, 1, 4, 5);
+        Lands.numbers(x, 0, 1, 4, 5);
         due("element(0, 1)", x.element(0, 1), 5);
         due("element(0, 0)", x.element(0, 0), 4);
         x.row(7, 2, 1);
@@ -1407,7 +1340,7 @@ public final class PromiseTest {
         due("a ground", thrown(x, 1, 0), 2);
         due("no place", thrown(x, 0, 2), 2);
         due("no place", thrown(x, 0, -1), 2);
-        due("no place", thrown(x, 0, MOST), 2);
+        due("no place", thrown(x, 0, Lands.MOST), 2);
         x.row(0, 1, 1);
         due("no place any more", thrown(x, 0, 1), 2);
     }
@@ -1415,8 +1348,8 @@ public final class PromiseTest {
     private static void copy() {
         on(38);
         NineMilesOff x = new NineMilesOff();
-        numbers(x, 0, 1, 1, 2, 3, 4, 5);
-        numbers(x, 1, 1, 0, 0, 0);
+        Lands.numbers(x, 0, 1, 1, 2, 3, 4, 5);
+        Lands.numbers(x, 1, 1, 0, 0, 0);
         due("copy(0, 1, 1, 0, 3)", x.copy(0, 1, 1, 0, 3), 3);
         due("elements", x.element(1, 0) * 100 + x.element(1, 1) * 10 + x.element(1, 2), 234);
         due("the first stays", x.element(0, 1), 2);
@@ -1431,10 +1364,10 @@ public final class PromiseTest {
         due("below 0", x.copy(0, -1, 1, 0, 1), -13);
         due("below 0", x.copy(0, 0, 1, -1, 1), -13);
         due("below 0", x.copy(0, 0, 1, 0, -1), -13);
-        due("far beyond", x.copy(0, MOST, 1, 0, 1), -13);
-        due("far beyond", x.copy(0, 1, 1, MOST, 1), -13);
-        due("far beyond", x.copy(0, 1, 1, 0, MOST), -13);
-        due("far beyond", x.copy(0, 1, 1, 0, LEAST), -13);
+        due("far beyond", x.copy(0, Lands.MOST, 1, 0, 1), -13);
+        due("far beyond", x.copy(0, 1, 1, Lands.MOST, 1), -13);
+        due("far beyond", x.copy(0, 1, 1, 0, Lands.MOST), -13);
+        due("far beyond", x.copy(0, 1, 1, 0, Lands.LEAST), -13);
         x.row(2, 0, 3);
         x.row(3, 2, 3);
         x.keep(4, 1, 0, 0);
@@ -1452,7 +1385,7 @@ public final class PromiseTest {
         due("no shelf", x.copy(0, 0, 8, 0, 1), -1);
         due("no shelf", x.copy(-1, 0, 0, 0, 1), -1);
         due("no shelf, nothing held", x.copy(5, 0, 8, 0, 1), -1);
-        numbers(x, 2, 0, 200, 7, 8);
+        Lands.numbers(x, 2, 0, 200, 7, 8);
         x.row(1, 0, 3);
         due("bytes", x.copy(2, 0, 1, 1, 2), 2);
         due("bytes", x.element(1, 1), -56);
