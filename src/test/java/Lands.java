@@ -83,10 +83,7 @@ final class Lands {
 
     /** Some of all: closed CELLS, DAYS, an image other than what is now, each sort of thing on SHELVES; nobody. */
     static NineMilesOff nobody() {
-        NineMilesOff x = plains(2, 7);
-        lay(x, 5, 0, 35);
-        lay(x, 3, 9, 20);
-        lay(x, 7, 3, 7);
+        NineMilesOff x = uneven(7);
         x.image();
         x.set(1, 8);
         lay(x, 4, 2, 21);
@@ -95,11 +92,7 @@ final class Lands {
     }
 
     static NineMilesOff rich() {
-        NineMilesOff x = plains(2, 4);
-        lay(x, 5, 0, 35);
-        lay(x, 3, 9, 20);
-        lay(x, 7, 3, 7);
-        put(x, 0, 1);
+        NineMilesOff x = put(uneven(4), 0, 1);
         x.go(4, 0);
         x.go(0, 2);
         x.go(4, 3);
@@ -109,6 +102,14 @@ final class Lands {
         x.set(1, 8);
         lay(x, 4, 2, 21);
         fill(x);
+        return x;
+    }
+
+    private static NineMilesOff uneven(int farthest) {
+        NineMilesOff x = plains(2, farthest);
+        lay(x, 5, 0, 35);
+        lay(x, 3, 9, 20);
+        lay(x, 7, 3, 7);
         return x;
     }
 

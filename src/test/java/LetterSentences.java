@@ -233,6 +233,8 @@ final class LetterSentences extends Sentences {
         x = Lands.only(1, 1, Lands.LINE);
         letterIs(x, 1, 1, 2, 2);
         letterIs(x, 0, 0, 1, 0);
+        letterIs(Lands.only(1, 1, 0, 1, 6), 1, 1, 7);
+        letterIs(Lands.only(1, 1, 35, 34, 29), 1, 34, 28);
         x = Lands.only(0, 20, 0, 1, 2, 35);
         letterIs(x, 1, 0, 0);
         x = Lands.only(0, 20, 0, 2, 14);

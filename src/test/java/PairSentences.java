@@ -119,6 +119,12 @@ final class PairSentences extends Sentences {
     }
 
     private void howManyPairs() {
+        int[][] farthest = {{0, 15}, {5, 15}, {30, 15}, {35, 15}, {14, 11}, {21, 11}};
+        for (int[] far : farthest) {
+            NineMilesOff x = Lands.plains(far[1], far[1]);
+            Lands.lay(x, 3, 9, far[0]);
+            due("from a MOUNTAIN on " + far[0] + " to the CELL farthest off", x.pairs(-1), 2);
+        }
         due("all", Lands.plains(0, 20).pairs(-1), 1296);
         due("those of FAR 1", Lands.plains(1, 1).pairs(-1), 120);
         due("those of FAR 10", Lands.plains(10, 10).pairs(-1), 4);
@@ -418,6 +424,8 @@ final class PairSentences extends Sentences {
         due("now", Lands.put(x, 1, 35).hinders(1, 35), -4);
         Lands.lay(x, 5, 0, 32);
         due("now it hinders", Lands.put(x, 1, 35).hinders(3, 35), 2);
+        due("where one alone could be twice, they can not", Lands.put(Lands.only(0, 20, 0, 1, 3), 0, 1).hinders(1, 3), 2);
+        due("where one alone can not be twice, they can", line(1, 1, 2, 3).hinders(4, 5), -4);
     }
 
     private void hindersRefused() {
@@ -503,6 +511,10 @@ final class PairSentences extends Sentences {
     }
 
     private void ways() {
+        NineMilesOff once = two(1);
+        for (int n : new int[] {3, 3, 10, 0, 2, 10, 1}) {
+            due("asked behind another one, ways(" + n + ")", once.ways(n), 1L << n);
+        }
         for (int n = 0; n <= 10; n++) {
             due("stay or change, ways(" + n + ")", two(1).ways(n), 1L << n);
             due("each as it will, ways(" + n + ")", two(0).ways(n), 1L << 2 * n);
@@ -532,6 +544,10 @@ final class PairSentences extends Sentences {
         for (int n = 1; n <= 10; n++) {
             due("half of them, rounds(" + n + ")", two(1).rounds(n), 1L << n - 1);
             due("a quarter of them, rounds(" + n + ")", two(0).rounds(n), 1L << 2 * n - 2);
+        }
+        NineMilesOff once = two(1);
+        for (int n : new int[] {3, 3, 10, 2, 10, 1}) {
+            due("asked behind another one, rounds(" + n + ")", once.rounds(n), 1L << n - 1);
         }
         due("stay", line(5, 5, 0, 5).rounds(10), 1);
         due("OFF now", two(2).rounds(0), 0);
