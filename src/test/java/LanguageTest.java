@@ -1,5 +1,6 @@
 import com.sun.source.tree.AssertTree;
 import com.sun.source.tree.BinaryTree;
+import com.sun.source.tree.BlockTree;
 import com.sun.source.tree.CatchTree;
 import com.sun.source.tree.ClassTree;
 import com.sun.source.tree.CompilationUnitTree;
@@ -9,6 +10,7 @@ import com.sun.source.tree.LiteralTree;
 import com.sun.source.tree.MemberReferenceTree;
 import com.sun.source.tree.MethodInvocationTree;
 import com.sun.source.tree.MethodTree;
+import com.sun.source.tree.NewArrayTree;
 import com.sun.source.tree.NewClassTree;
 import com.sun.source.tree.SynchronizedTree;
 import com.sun.source.tree.ThrowTree;
@@ -46,6 +48,9 @@ public final class LanguageTest extends TreePathScanner<Void, Void> {
         "java.util.Arrays.copyOfRange", "java.lang.System.arraycopy", "java.lang.Math.max", "java.lang.Math.min",
         "java.lang.Math.abs", "java.lang.Math.floorDiv", "java.lang.Math.floorMod", "java.lang.Long.bitCount",
         "java.lang.Integer.bitCount", "java.lang.Object.<init>");
+    private static final Set<String> TYPES = Set.of("void", "int", "long", "short", "byte", "char", "boolean", "String",
+        "int[]", "long[]", "short[]", "byte[]", "char[]", "boolean[]");
+    private static final Set<String> UNWANTED = Set.of("equals", "hashCode", "toString");
     private static final Set<String> THROWN = Set.of("IllegalStateException", "IllegalArgumentException",
         "UnsupportedOperationException");
     private static final int LINES = 60;
@@ -59,6 +64,9 @@ public final class LanguageTest extends TreePathScanner<Void, Void> {
     private final CompilationUnitTree unit;
     private final Map<String, Set<String>> calls = new HashMap<>();
     private final Set<String> face = new HashSet<>();
+    private final Set<String> own = new HashSet<>();
+    private final Set<Tree> throwing = new HashSet<>();
+    private final Set<Tree> catching = new HashSet<>();
     private int classes;
     private int wrong;
 
@@ -76,6 +84,7 @@ public final class LanguageTest extends TreePathScanner<Void, Void> {
             CompilationUnitTree unit = task.parse().iterator().next();
             task.analyze();
             LanguageTest test = new LanguageTest(Trees.instance(task), unit);
+            test.nameClasses();
             test.scan(unit, null);
             test.whole();
             System.out.println(test.wrong == 0 ? "LanguageTest: as the rules say" : test.wrong + " against the rules");
@@ -91,9 +100,24 @@ public final class LanguageTest extends TreePathScanner<Void, Void> {
         System.out.println("rule " + rule + ", line " + line + ": " + what);
     }
 
+    private void nameClasses() {
+        ClassTree outer = (ClassTree) unit.getTypeDecls().get(0);
+        own.add(outer.getSimpleName().toString());
+        for (Tree member : outer.getMembers()) {
+            if (member instanceof ClassTree) {
+                own.add(((ClassTree) member).getSimpleName().toString());
+            }
+        }
+    }
+
     private void whole() {
         if (!face.equals(FACE)) {
             against(1, null, "the face is " + new TreeSet<>(face));
+        }
+        for (Tree method : catching) {
+            if (throwing.contains(method)) {
+                against(6, method, "a method that throws and catches");
+            }
         }
         if (classes > CLASSES) {
             against(11, null, classes + " classes");
@@ -127,6 +151,25 @@ public final class LanguageTest extends TreePathScanner<Void, Void> {
         return path == null ? null : path.getLeaf();
     }
 
+    private static boolean isConstructor(Tree tree) {
+        return tree instanceof MethodTree && ((MethodTree) tree).getName().contentEquals("<init>");
+    }
+
+    /** Behind a constructor or a field: there alone objects are made, so that calls together make few. */
+    private boolean isMadeOnce() {
+        Tree method = enclosing(MethodTree.class);
+        return method == null || isConstructor(method);
+    }
+
+    private void checkType(Tree type) {
+        String name = String.valueOf(type);
+        String single = name.endsWith("[]") ? name.substring(0, name.length() - 2) : name;
+        boolean isException = enclosing(CatchTree.class) != null && THROWN.contains(name);
+        if (type != null && !TYPES.contains(name) && !own.contains(single) && !isException) {
+            against(3, type, "the type " + name);
+        }
+    }
+
     private boolean isOuter(Tree tree) {
         return tree instanceof ClassTree && ((ClassTree) tree).getSimpleName().contentEquals("NineMilesOff");
     }
@@ -147,11 +190,23 @@ public final class LanguageTest extends TreePathScanner<Void, Void> {
         if (fields > FIELDS) {
             against(11, tree, fields + " fields");
         }
+        if (enclosing(MethodTree.class) != null) {
+            against(2, tree, "a class in a method: " + tree.getSimpleName());
+        }
+        if (tree.getExtendsClause() != null && !own.contains(tree.getExtendsClause().toString())) {
+            against(2, tree, "a class under " + tree.getExtendsClause());
+        }
+        for (Tree member : tree.getMembers()) {
+            if (member instanceof BlockTree) {
+                against(5, member, "an initialiser block");
+            }
+        }
         return super.visitClass(tree, none);
     }
 
     @Override
     public Void visitVariable(VariableTree tree, Void none) {
+        checkType(tree.getType());
         if (getCurrentPath().getParentPath().getLeaf() instanceof ClassTree) {
             Set<Modifier> modifiers = tree.getModifiers().getFlags();
             if (isOuter(getCurrentPath().getParentPath().getLeaf()) && !modifiers.contains(Modifier.PRIVATE)) {
@@ -168,6 +223,10 @@ public final class LanguageTest extends TreePathScanner<Void, Void> {
     public Void visitMethod(MethodTree tree, Void none) {
         Set<Modifier> modifiers = tree.getModifiers().getFlags();
         String name = tree.getName().toString();
+        checkType(tree.getReturnType());
+        if (UNWANTED.contains(name)) {
+            against(6, tree, "a method " + name);
+        }
         boolean outer = isOuter(getCurrentPath().getParentPath().getLeaf());
         if (outer && modifiers.contains(Modifier.PUBLIC) && !name.equals("<init>")) {
             face.add(name);
@@ -207,7 +266,18 @@ public final class LanguageTest extends TreePathScanner<Void, Void> {
         if (thrown && !THROWN.contains(tree.getIdentifier().toString())) {
             against(6, tree, "thrown: " + tree.getIdentifier());
         }
+        if (!thrown && !isMadeOnce()) {
+            against(12, tree, "an object made by a call: " + tree.getIdentifier());
+        }
         return super.visitNewClass(tree, none);
+    }
+
+    @Override
+    public Void visitNewArray(NewArrayTree tree, Void none) {
+        if (!isMadeOnce()) {
+            against(12, tree, "an array made by a call: " + tree.getType());
+        }
+        return super.visitNewArray(tree, none);
     }
 
     @Override
@@ -215,6 +285,10 @@ public final class LanguageTest extends TreePathScanner<Void, Void> {
         if (!(tree.getExpression() instanceof NewClassTree)) {
             against(6, tree, "a rethrow");
         }
+        if (isConstructor(enclosing(MethodTree.class))) {
+            against(6, tree, "a throw in a constructor");
+        }
+        throwing.add(enclosing(MethodTree.class));
         return super.visitThrow(tree, none);
     }
 
@@ -223,6 +297,7 @@ public final class LanguageTest extends TreePathScanner<Void, Void> {
         if (tree.getFinallyBlock() != null || !tree.getResources().isEmpty()) {
             against(6, tree, "finally or resources");
         }
+        catching.add(enclosing(MethodTree.class));
         return super.visitTry(tree, none);
     }
 
@@ -243,6 +318,16 @@ public final class LanguageTest extends TreePathScanner<Void, Void> {
             }
         }
         return super.visitBinary(tree, none);
+    }
+
+    @Override
+    public Void visitLiteral(LiteralTree tree, Void none) {
+        Object value = tree.getValue();
+        String text = value instanceof String || value instanceof Character ? value.toString() : "";
+        if (text.chars().anyMatch(sign -> sign < 1 || sign > 127)) {
+            against(4, tree, "a sign that a text may not hold");
+        }
+        return super.visitLiteral(tree, none);
     }
 
     @Override

@@ -316,9 +316,18 @@ public final class ModelTest {
         }
     }
 
-    private void askShelves(int call) {
-        int d = upTo(7);
+    /** A SHELF with a ROW of the SORT of that in SHELF d, if a few looks find one: to copy nothing there can be done. */
+    private int likeShelf(int d) {
         int e = upTo(7);
+        for (int look = 0; look < 8 && model.copy(d, 0, e, 0, 0) != 0; look++) {
+            e = upTo(7);
+        }
+        return e;
+    }
+
+    private void askShelves(int call) {
+        int d = call == 35 && !once(4) ? below(4) : upTo(7);
+        int e = once(3) ? upTo(7) : likeShelf(d);
         int i = once(3) ? upTo(100) : upTo(6);
         int j = once(3) ? upTo(100) : upTo(6);
         int n = once(3) ? upTo(100) : upTo(4);
